@@ -149,7 +149,7 @@ public final class DryWells {
         }
         planner.admit(villages, rocks, book.dry());
         planner.measureWays(ways, villages.size());
-        planner.weighDepths();
+        planner.weighDepths(pipes);
         planner.choose(rigPlace, pipes, days, book.rest());
         return planner.worth();
     }
@@ -802,9 +802,15 @@ public final class DryWells {
                 roads[from] = 0;
             }
             for (int some = 1; some <= admitted; some++) {
-                for (int from = 0; isAdmitted(some) && from <= lastPlace; from++) {
-                    roads[some * PLACES + from] = shortest(some, from, lastPlace);
+                if (isAdmitted(some)) {
+                    measureSet(some, lastPlace);
                 }
+            }
+        }
+
+        private void measureSet(int some, int lastPlace) {
+            for (int from = 0; from <= lastPlace; from++) {
+                roads[some * PLACES + from] = shortest(some, from, lastPlace);
             }
         }
 
@@ -831,20 +837,26 @@ public final class DryWells {
             return steps[from * PLACES + next] + roads[(some & ~bit(next)) * PLACES + next];
         }
 
-        void weighDepths() {
-            for (int all = 0; all < PIPE_ROW; all++) {
+        void weighDepths(int mostPipes) {
+            for (int all = 0; all <= mostPipes; all++) {
                 worths[all] = all == 0 ? 0 : NONE;
             }
             for (int some = 1; some <= admitted; some++) {
-                for (int all = 0; isAdmitted(some) && all < PIPE_ROW; all++) {
-                    worths[some * PIPE_ROW + all] = greatest(some, all);
+                if (isAdmitted(some)) {
+                    weighSet(some, mostPipes);
                 }
             }
         }
 
-        private long greatest(int some, int all) {
+        private void weighSet(int some, int mostPipes) {
             int village = firstOf(some);
             int others = some & ~bit(village);
+            for (int all = 0; all <= mostPipes; all++) {
+                worths[some * PIPE_ROW + all] = greatest(others, all, village);
+            }
+        }
+
+        private long greatest(int others, int all, int village) {
             long best = NONE;
             for (int depth = 1; depth <= DEEPEST && depth <= all; depth++) {
                 best = Math.max(best, worthWith(others, all - depth, village, depth));

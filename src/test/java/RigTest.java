@@ -228,5 +228,13 @@ public final class RigTest {
         Check.due("the last DAY", x.count(2), 9999);
         x.rules(0);
         Check.due("beyond by a PIPE", x.drill(1, false, 0), DryWells.NONE);
+        DryWells y = rigAtVillage();
+        y.way(0, 1, 9);
+        for (int i = 0; i < 1110; i++) {
+            y.go(i % 2);
+        }
+        y.way(0, 1, 8);
+        Check.due("DAY 9999 by a WAY", y.go(0), 9999);
+        Check.due("no DAY behind it", y.go(1), DryWells.NONE);
     }
 }

@@ -12,6 +12,7 @@ public final class RulesTest {
         faultLeavesTheRules();
         rulesAtWork();
         whatWasDrilledStays();
+        eightHolesOfNine();
         Check.end("RulesTest");
     }
 
@@ -99,6 +100,9 @@ public final class RulesTest {
         bad("salty 1;", 1, 0);
         bad("Salt 1;", 1, 0);
         bad("saltA 1;", 1, 4);
+        bad("malt 1;", 1, 0);
+        bad("dryz 1;", 1, 0);
+        bad("adry 1;", 1, 0);
         bad("dry\t1;", 1, 3);
         bad("dry\r1;", 1, 3);
         bad("dry", 1, 3);
@@ -193,5 +197,19 @@ public final class RulesTest {
         y.rules(0);
         Check.due("the SALTED stays", y.look(1, 3), 1);
         Check.due("no WELL comes of it", y.look(1, 2), 0);
+    }
+
+    /** No VILLAGE can have more bad holes than the 8 PIPES of its ROCK: untold, dry 9 gives up none. */
+    private static void eightHolesOfNine() {
+        DryWells x = RigTest.rigAtVillage();
+        for (int i = 1; i <= 8; i++) {
+            x.drill(1, false, 0);
+        }
+        Check.due("eight bad holes", x.look(1, 3), 8);
+        Check.due("not GIVEN UP ahead of any RULES", x.look(1, 2), 0);
+        Check.rulesOf(x, "dry 8;");
+        Check.due("GIVEN UP", x.look(1, 2), 2);
+        Check.rulesOf(x, "salt 1;");
+        Check.due("not GIVEN UP by RULES without dry", x.look(1, 2), 0);
     }
 }
