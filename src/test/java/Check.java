@@ -1,5 +1,11 @@
+import java.util.NoSuchElementException;
+
 /** What the tests share: counting answers that are not as due, and texts put on the TAPE. */
 final class Check {
+    static final long THROWS_INDEX = -1001;
+    static final long THROWS_ELEMENT = -1002;
+    static final long THROWS_ANOTHER = -1003;
+
     private static int right = 0;
     private static int wrong = 0;
 
@@ -19,20 +25,20 @@ final class Check {
         due(call, got ? 1 : 0, want ? 1 : 0);
     }
 
-    /** The name of what look() throws, or "" if it throws nothing. */
-    static String thrownByLook(DryWells x, int village, int what) {
+    /** What look() answers, or THROWS_INDEX, THROWS_ELEMENT for just these two exceptions. */
+    static long look(DryWells x, int village, int what) {
         try {
-            x.look(village, what);
-            return "";
+            return x.look(village, what);
         } catch (RuntimeException e) {
-            return e.getClass().getSimpleName();
+            if (e.getClass() == IndexOutOfBoundsException.class) {
+                return THROWS_INDEX;
+            }
+            return e.getClass() == NoSuchElementException.class ? THROWS_ELEMENT : THROWS_ANOTHER;
         }
     }
 
-    static void dueThrow(DryWells x, int village, int what, String want) {
-        String got = thrownByLook(x, village, what);
-        due("look(" + village + ", " + what + ") threw '" + got + "', is that '" + want + "'",
-                got.equals(want), true);
+    static void dueThrow(DryWells x, int village, int what, long want) {
+        due("look(" + village + ", " + what + ")", look(x, village, what), want);
     }
 
     /** Puts a text of signs 0 to 255 behind the TAPE, filled up with spaces to twenties. */

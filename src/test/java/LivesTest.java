@@ -12,7 +12,7 @@ public final class LivesTest {
     }
 
     /** So many VILLAGES, each with a WELL. */
-    private static DryWells wells(int number) {
+    static DryWells wells(int number) {
         DryWells x = new DryWells();
         x.rock(1, 1, 1);
         x.chance(0, 1, 8);

@@ -5,13 +5,11 @@ import java.util.List;
 
 /**
  * The document once more, as slowly and plainly as can be: every hole is kept, fractions are of
- * BigIntegers, and a PLAN is looked for among all depths and all orders. Exceptions are told as
- * THROWS less a number.
+ * BigIntegers, and a PLAN is looked for among all depths and all orders. Exceptions are told by the
+ * THROWS numbers of Check.
  */
 final class Model {
     static final int NONE = -1;
-    static final long THROWS_INDEX = -1001;
-    static final long THROWS_ELEMENT = -1002;
 
     private record Hole(int village, int pipes, boolean water, boolean well) {
     }
@@ -413,7 +411,7 @@ final class Model {
 
     long look(int village, int what) {
         if (!isVillage(village)) {
-            return THROWS_INDEX;
+            return Check.THROWS_INDEX;
         }
         return switch (what) {
             case 0 -> rockOf(village);
@@ -424,7 +422,7 @@ final class Model {
                     .mapToInt(Hole::pipes).findFirst().orElse(NONE);
             case 5 -> endOf(village);
             case 6 -> runOf(village);
-            default -> THROWS_ELEMENT;
+            default -> Check.THROWS_ELEMENT;
         };
     }
 

@@ -1,4 +1,3 @@
-import java.util.NoSuchElementException;
 import java.util.Random;
 
 /** All promises: long runs of calls drawn by seed, each answer beside that of the Model. */
@@ -108,7 +107,7 @@ public final class ModelTest {
             due("still(" + age + ", " + what + ")", real.still(age, what), model.still(age, what));
         } else if (draw < 85) {
             int what = some(0, 6);
-            due("look(" + village + ", " + what + ")", lookReal(village, what), model.look(village, what));
+            due("look(" + village + ", " + what + ")", Check.look(real, village, what), model.look(village, what));
         } else if (draw < 92) {
             int what = some(0, 5);
             due("count(" + what + ")", real.count(what), model.count(what));
@@ -124,16 +123,6 @@ public final class ModelTest {
 
     private void due(String call, long got, long want) {
         Check.due(name + call, got, want);
-    }
-
-    private long lookReal(int village, int what) {
-        try {
-            return real.look(village, what);
-        } catch (IndexOutOfBoundsException e) {
-            return e.getClass() == IndexOutOfBoundsException.class ? Model.THROWS_INDEX : -7;
-        } catch (NoSuchElementException e) {
-            return Model.THROWS_ELEMENT;
-        }
     }
 
     private void rules() {

@@ -178,14 +178,14 @@ public final class RigTest {
         DryWells x = rigAtVillage();
         int[] noVillage = {0, -1, 3, 8, Integer.MIN_VALUE, Integer.MAX_VALUE};
         for (int village : noVillage) {
-            Check.dueThrow(x, village, 0, "IndexOutOfBoundsException");
-            Check.dueThrow(x, village, 7, "IndexOutOfBoundsException");
+            Check.dueThrow(x, village, 0, Check.THROWS_INDEX);
+            Check.dueThrow(x, village, 7, Check.THROWS_INDEX);
         }
         int[] noWhat = {-1, 7, Integer.MIN_VALUE, Integer.MAX_VALUE};
         for (int what : noWhat) {
-            Check.dueThrow(x, 1, what, "NoSuchElementException");
+            Check.dueThrow(x, 1, what, Check.THROWS_ELEMENT);
         }
-        Check.dueThrow(x, 2, 6, "");
+        Check.due("look at the last", x.look(2, 6), 0);
     }
 
     private static void counting() {
