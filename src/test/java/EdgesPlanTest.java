@@ -17,6 +17,7 @@ public final class EdgesPlanTest {
         waysTakenAway();
         neverOverTheDepot();
         neverOverOneThatIsNotInIt();
+        longWayRatherThanOver();
         notWhereAWellIs();
         notWhereGivenUp();
         fromWhereTheRigIs();
@@ -31,8 +32,10 @@ public final class EdgesPlanTest {
         fewestPipes();
         fewestPipesByCutHope();
         fewestDays();
+        fewestDaysOfOtherSets();
         firstByDepths();
         firstByDepthsOfAll();
+        firstByDepthsOfOtherSets();
         firstOrder();
         firstOrderOfSeven();
         pipesOfTheRockAreNotLookedAt();
@@ -232,6 +235,19 @@ public final class EdgesPlanTest {
         duePlan(x, 2, 99, 10009 * 8, 2, 4, 1, 1, 2, 1);
     }
 
+    /** A shorter WAY over a VILLAGE doesn't help while there is no PIPE for it. */
+    private static void longWayRatherThanOver() {
+        for (int far = 1; far <= 2; far++) {
+            int near = 3 - far;
+            DryWells x = villages(0, far == 1 ? 9999 : 10, far == 2 ? 9999 : 10);
+            x.way(0, near, 1);
+            x.way(near, far, 1);
+            x.way(0, far, 9);
+            duePlan(x, 1, 99, 9999 * 8, 1, 10, far, 1);
+            duePlan(x, 1, 9, 10 * 8, 1, 2, near, 1);
+        }
+    }
+
     // Terms: "for each VILLAGE that has no WELL"
     private static void notWhereAWellIs() {
         DryWells x = villages(1, 9999, 10);
@@ -402,6 +418,24 @@ public final class EdgesPlanTest {
         duePlan(x, 1, 99, 10 * 8, 1, 4, 3, 1);
     }
 
+    /** 20 PEOPLE with 2 PIPES are as good as 30 with 1 each: the DAYS tell which. */
+    private static void fewestDaysOfOtherSets() {
+        DryWells x = villages(0, 10, 20);
+        x.way(0, 1, 1);
+        x.way(1, 2, 1);
+        x.way(0, 2, 9);
+        duePlan(x, 2, 99, 30 * 8, 2, 4, 1, 1, 2, 1);
+        x.way(0, 2, 1);
+        duePlan(x, 2, 99, 20 * 12, 2, 3, 2, 2);
+        DryWells y = villages(0, 20, 10);
+        y.way(0, 2, 1);
+        y.way(1, 2, 1);
+        y.way(0, 1, 9);
+        duePlan(y, 2, 99, 30 * 8, 2, 4, 2, 1, 1, 1);
+        y.way(0, 1, 1);
+        duePlan(y, 2, 99, 20 * 12, 2, 3, 1, 2);
+    }
+
     // Terms: "then the first by depths (of VILLAGES in turn, the lesser ahead)"
     private static void firstByDepths() {
         DryWells x = villages(1, 10, 10);
@@ -451,6 +485,24 @@ public final class EdgesPlanTest {
             }
             duePlan(x, pipes, 99, 10 * 8 * pipes, told);
         }
+    }
+
+    /** In as many DAYS, too: depths 0 and 2 ahead of 1 and 1, but 1 and 1 ahead of 2 and 0. */
+    private static void firstByDepthsOfOtherSets() {
+        DryWells x = villages(0, 10, 20);
+        x.way(0, 1, 1);
+        x.way(1, 2, 3);
+        x.way(0, 2, 4);
+        duePlan(x, 2, 99, 20 * 12, 2, 6, 2, 2);
+        x.go(1);
+        duePlan(x, 2, 99, 20 * 12, 2, 5, 2, 2);
+        DryWells y = villages(0, 20, 10);
+        y.way(0, 2, 1);
+        y.way(1, 2, 3);
+        y.way(0, 1, 4);
+        duePlan(y, 2, 99, 30 * 8, 2, 6, 2, 1, 1, 1);
+        y.go(2);
+        duePlan(y, 2, 99, 30 * 8, 2, 5, 2, 1, 1, 1);
     }
 
     // Terms: "then the first order by numbers"

@@ -308,6 +308,14 @@ public final class EdgesTapeTest {
         Check.due("dry is untold", y.look(1, 2), 0);
         Check.due("salt is told", y.drill(1, true, 6), 2);
         Check.due("rest is untold", y.count(2), 6);
+        DryWells z = RigTest.rigAtVillage();
+        for (int i = 0; i < 8; i++) {
+            z.drill(1, false, 0);
+        }
+        Check.rulesOf(z, "dry 8;");
+        Check.due("eight holes by dry 8", z.look(1, 2), 2);
+        z.rules(0);
+        Check.due("eight holes by dry 9, untold", z.look(1, 2), 0);
     }
 
     // 3: "(What was SALTED stays so, WELLS too.)"
@@ -430,7 +438,8 @@ public final class EdgesTapeTest {
     // Terms: "(another word, too)"
     private static void wordsNearby() {
         String[] words = {"s", "sal", "salts", "saltsalt", "tlas", "d", "dr", "dryy", "yrd", "r", "res", "rests", "tser",
-            "drysalt", "wet", "a", "z", "abcdefghijklmnopqrstuvwxyz"};
+            "drysalt", "wet", "a", "z", "abcdefghijklmnopqrstuvwxyz",
+            "malt", "salz", "wry", "drz", "best", "resz"};
         for (String word : words) {
             dueFault(word + " 1;", 1, 0);
             dueFault("rest 1; " + word + " 1;", 1, 8);
