@@ -17,6 +17,7 @@ public final class EdgesPlanTest {
         waysTakenAway();
         neverOverTheDepot();
         neverOverOneThatIsNotInIt();
+        everyOneOnTheWayTakesAPipe();
         longWayRatherThanOver();
         notWhereAWellIs();
         notWhereGivenUp();
@@ -233,6 +234,29 @@ public final class EdgesPlanTest {
         x.way(1, 2, 1);
         duePlan(x, 1, 99, 10 * 8, 1, 2, 1, 1);
         duePlan(x, 2, 99, 10009 * 8, 2, 4, 1, 1, 2, 1);
+    }
+
+    /** Many PEOPLE at the end of a chain: each VILLAGE ahead of them takes a PIPE, whatever its number. */
+    private static void everyOneOnTheWayTakesAPipe() {
+        for (int turn = 0; turn < 14; turn++) {
+            int[] chain = new int[8];
+            int[] people = new int[7];
+            for (int i = 1; i <= 7; i++) {
+                int step = turn < 7 ? i : 7 - i;
+                chain[i] = (step + turn) % 7 + 1;
+                people[chain[i] - 1] = i == 7 ? 9999 : 10;
+            }
+            DryWells x = villages(0, people);
+            for (int i = 1; i <= 7; i++) {
+                x.way(chain[i - 1], chain[i], 1);
+            }
+            for (int pipes = 0; pipes <= 7; pipes++) {
+                long worth = pipes < 7 ? 80L * pipes : 480 + 9999 * 8;
+                Check.due("plan(" + pipes + ", 99)", x.plan(pipes, 99), worth << 16);
+                Check.due("VILLAGES", x.planned(4, 0), pipes);
+                Check.due("the last", x.planned(0, pipes - 1), pipes == 0 ? NONE : chain[pipes]);
+            }
+        }
     }
 
     /** A shorter WAY over a VILLAGE doesn't help while there is no PIPE for it. */

@@ -4,7 +4,7 @@ import java.util.function.ToLongFunction;
 
 /**
  * Every call that the document refuses, by promise: its answer, and that all stays as it was. Numbers
- * beyond a range are taken just below and above it, and at both ends of int.
+ * beyond a range are taken just below and above it, and at both ends of int. (Beyond DAY 9999: EdgesRigTest.)
  */
 public final class RefusedTest {
     private static final int MIN = Integer.MIN_VALUE;
