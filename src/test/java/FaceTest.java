@@ -6,8 +6,10 @@ import java.nio.file.Files;
 import java.nio.file.Path;
 import java.util.Arrays;
 import java.util.List;
+import java.util.NoSuchElementException;
 import java.util.Set;
 import java.util.TreeSet;
+import java.util.regex.Matcher;
 import java.util.regex.Pattern;
 
 /** The public face, and those rules of LANGUAGE.md that can be seen by looking at class and text. */
@@ -27,9 +29,11 @@ public final class FaceTest {
 
     public static void main(String[] args) throws IOException {
         publicMembers();
+        exceptions();
         fields();
         nestedClasses();
         sourceText();
+        methodLengths();
         Check.end("FaceTest");
     }
 
@@ -64,6 +68,17 @@ public final class FaceTest {
         return text.append(')').toString();
     }
 
+    /** look() names its two exceptions, no other member of the face names one. */
+    private static void exceptions() {
+        Check.due("the constructor's exceptions", DryWells.class.getConstructors()[0].getExceptionTypes().length, 0);
+        for (Method method : DryWells.class.getDeclaredMethods()) {
+            List<Class<?>> want = method.getName().equals("look")
+                    ? List.of(IndexOutOfBoundsException.class, NoSuchElementException.class) : List.of();
+            Check.due(method.getName() + "'s exceptions",
+                    Arrays.asList(method.getExceptionTypes()).equals(want), true);
+        }
+    }
+
     private static void fields() {
         Check.due("NONE", DryWells.NONE, -1);
         for (Field field : DryWells.class.getDeclaredFields()) {
@@ -85,6 +100,9 @@ public final class FaceTest {
                 boolean loose = Modifier.isStatic(field.getModifiers()) && !Modifier.isFinal(field.getModifiers());
                 Check.due(field + " is static and not final", loose, false);
             }
+            for (Method method : one.getDeclaredMethods()) {
+                Check.due(method + " has at most seven parameters", method.getParameterCount() <= 7, true);
+            }
             long own = Arrays.stream(all).filter(f -> !Modifier.isStatic(f.getModifiers())).count();
             Check.due(one.getName() + " has at most some twenty fields", own <= 20, true);
         }
@@ -98,5 +116,21 @@ public final class FaceTest {
             Check.due("rule " + barred, pattern.matcher(text).find(), false);
         }
         Check.due("signs beyond 127", text.chars().anyMatch(sign -> sign > 127), false);
+    }
+
+    /** Rule 11, by the indents: a method ends at the first closing brace that stands as far in as it does. */
+    private static void methodLengths() throws IOException {
+        List<String> lines = Files.readAllLines(Path.of("src/main/java/DryWells.java"));
+        Pattern opening = Pattern.compile("( {4}| {8})\\S.*\\).*\\{");
+        int methods = 0;
+        for (int i = 0; i < lines.size(); i++) {
+            Matcher matcher = opening.matcher(lines.get(i));
+            if (matcher.matches() && !lines.get(i).matches(" +(if|for|while|switch|\\}).*")) {
+                methods++;
+                int end = lines.subList(i, lines.size()).indexOf(matcher.group(1) + "}");
+                Check.due("lines of" + lines.get(i), end >= 0 && end <= 60, true);
+            }
+        }
+        Check.due("methods were found", methods > 50, true);
     }
 }
